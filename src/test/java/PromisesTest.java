@@ -42,6 +42,7 @@ public final class PromisesTest {
         promise22();
         promise23();
         changes();
+        manySteps();
         TALLY.end("PromisesTest");
     }
 
@@ -184,7 +185,7 @@ public final class PromisesTest {
             {"mn", 1}, {"min(", 4}, {"minx", 3}, {"min(x", 5}, {"min(x)", 5}, {"min(x,", 6},
             {"min(x,y", 7}, {"min(x,y,z)", 7}, {"min(,x)", 4}, {"min(x,)", 6}, {"min()", 4},
             {"(((((((", 6}, {"(((((((x)))))))", 6}, {"((((((min(1,2)", 9}, {"((((((-(x", 7},
-            {"((((((x)))))", 12}, {"min(1,((((((x", 11}, {"x,y", 1}, {"x=y", 1}, {"!", 0}, {"~", 0},
+            {"((((((x)))))", 12}, {"min(1,((((((x", 11}, {"min(((((((x", 9}, {"x,y", 1}, {"x=y", 1}, {"!", 0}, {"~", 0},
             {"tt", 1}, {"t1", 1}, {"1t", 1}, {"x+y+z)", 5}, {"x+?y", 2}};
         for (Object[] row : bad) {
             due("fault of " + row[0], faultOf((String) row[0]), (Integer) row[1]);
@@ -429,6 +430,9 @@ public final class PromisesTest {
         due("wrong", s.set(-1, 1), INVALID);
         due("wrong", s.set(3, 1), INVALID);
         due("wrong", s.set(MIN, 100), INVALID);
+        due("wrong", s.set(-1, 0), INVALID);
+        due("wrong", s.set(3, 0), INVALID);
+        due("wrong", s.set(4, 0), INVALID);
         s.solve(10);
         s.set(3, 2);
         due("solved", s.count(3), 10);
@@ -559,6 +563,29 @@ public final class PromisesTest {
             due("ascending", s.breakAt(n, 0) > last ? 1 : 0, 1);
             last = s.breakAt(n, 0);
         }
+        // Delays that change differ by their order: all 1 + 3 + 9 + 27 times are there.
+        s.delay(0, 1000, -20);
+        s.delay(1, 110, 300);
+        s.delay(2, 12, 500);
+        due("three, nine and 27 ways", s.count(5), 40);
+        int[] ways = new int[4];
+        for (int n = 0; n < 40; n++) {
+            ways[s.breakAt(n, 1)]++;
+        }
+        due("order 1", ways[1], 3);
+        due("order 2", ways[2], 9);
+        due("order 3", ways[3], 27);
+        due("behind the last", s.breakAt(40, 0), NOT_FOUND);
+        // From 1 the lag t / 2 is 0 at 1, but 1 at 2; from 0 it is 0 at 1.
+        s = new LagSolver();
+        right(s, 0, "x@0+x@1");
+        s.delay(0, 0, 500);
+        s.delay(1, 1, 0);
+        breaks(s, new int[] {0, 0}, new int[] {1, 1, 1}, new int[] {2, 2, 0});
+        s.solve(50);
+        due("steps", s.count(4), 3);
+        due("1", s.step(1, 0), 1);
+        due("2", s.step(2, 0), 2);
     }
 
     private static void promise12() {
@@ -687,6 +714,26 @@ public final class PromisesTest {
         right(s, 2, "x@0");
         s.solve(100);
         due("used by another", s.step(0, 5), 3);
+        // A round of a later step: from X = 200 at 100 with K = 2000 and G = 400, at 140 of 200.
+        s = new LagSolver();
+        right(s, 0, "2");
+        right(s, 1, "x@0");
+        s.delay(0, 60, 0);
+        s.set(2, 0);
+        s.solve(100);
+        due("y: K = 0, L = 80", s.value(1, 100), 4);
+        s.solve(100);
+        due("y: K = 80, L = 280", s.value(1, 200), 4 + 18);
+        due("rounds", s.step(1, 5), 1);
+        // The slope within a step is that of the line to the guess: 999999000, not 1000000000.
+        right(s, 0, "999.999*1000");
+        right(s, 1, "x'@0");
+        s.set(1, 0);
+        s.solve(20);
+        due("L of y", s.value(1, 20), 0);
+        s.delay(0, 10, 0);
+        s.solve(20);
+        due("y: K = 0, L = 999999000", s.value(1, 20), 9999990);
         // A slope of the past within the step: z' = x'@0, x' = 1000 * 2 from the line.
         s = new LagSolver();
         right(s, 0, "2");
@@ -848,6 +895,18 @@ public final class PromisesTest {
         for (int[] row : wrong) {
             due("slope", s.slope(row[0], row[1]), INVALID);
         }
+        // Of another variable, at the end of a step, and where the next one begins with -50:
+        // K of y is 50 - 0 at 0 and 50 - 100 at 100, L at 100 is 50 - 0 as the guess of x is 0.
+        s = new LagSolver();
+        right(s, 0, "t");
+        right(s, 1, "0.05-x'@0");
+        s.solve(200);
+        due("y", s.value(1, 100), 5);
+        due("K", s.step(1, 3), -50);
+        due("slope at 99", s.slope(1, 99), 50);
+        due("slope at 100", s.slope(1, 100), 50);
+        due("slope at 101", s.slope(1, 101) < 0 ? 1 : 0, 1);
+        due("the time before is of the step before", s.crossing(1, 5, 100), 100);
         // At the end of a step the slope is that of this step: 1000, then 0 from 100 on.
         s = new LagSolver();
         right(s, 0, "y@0");
@@ -1154,6 +1213,7 @@ public final class PromisesTest {
         due("solved", s.count(3), 0);
         due("undo clear", s.undo(), 2);
         due("points", s.count(8), 1);
+        due("point", s.value(0, -9), 900);
         due("undo delay", s.undo(), 1);
         due("part", s.count(11), 5);
         due("lag", s.lag(0, 0), 70);
@@ -1218,10 +1278,18 @@ public final class PromisesTest {
         int value = s.value(1, 333);
         int slope = s.slope(1, 333);
         int breaks = s.count(5);
-        right(s, 1, "1");
+        int secondOrder = s.breakAt(2, 1);
+        right(s, 1, "1-2*x@0/9");
         s.delay(2, 1, 1);
+        s.delay(0, 5, 0);
+        s.delay(1, 5, 0);
         s.clear(0);
+        s.point(0, -1, 7);
+        s.point(0, -39, 8);
+        s.point(0, -3, 9);
         s.set(0, 20);
+        due("other steps", s.solve(444), 444);
+        due("other breaks", right(s, 0, "x@0+y@1"), 3);
         type(s, "abc");
         due("kept", s.count(7), 4);
         due("restore", s.restore(0), 400);
@@ -1230,7 +1298,12 @@ public final class PromisesTest {
         due("value", s.value(1, 333), value);
         due("slope", s.slope(1, 333), slope);
         due("breaks", s.count(5), breaks);
+        due("break's order", s.breakAt(2, 1), secondOrder);
+        due("break's delay", s.breakAt(1, 2), 2);
+        due("break's time", s.breakAt(1, 0), 60);
         due("points", s.count(8), 2);
+        due("a point", s.value(0, -30), 150);
+        due("a point", s.slope(0, -21), 15000);
         due("setting", s.count(0), 45);
         due("delays", s.count(14), 4);
         due("part", s.count(13), -8);
@@ -1243,6 +1316,34 @@ public final class PromisesTest {
         due("restore", s.restore(0), 400);
         due("points", s.count(8), 2);
         due("value", s.value(1, 333), value);
+    }
+
+    /** 450 calls of solve() that end within steps of 20, each state recorded and brought back. */
+    private static void manySteps() {
+        part("many steps");
+        LagSolver s = new LagSolver();
+        right(s, 0, "1");
+        s.set(0, 20);
+        int steps = 0;
+        for (int n = 0; n < 450; n++) {
+            s.solve(n < 377 ? 21 : 1);
+            steps += n < 377 ? 2 : 1;
+        }
+        due("solve", s.solve(10), 8000);
+        due("steps", s.count(4), steps + 1);
+        due("save", s.save(0), 8000);
+        due("differs", s.differs(20), 0);
+        due("undo", s.undo(), 3);
+        due("solved", s.count(3), 7990);
+        due("clear", s.clear(0), 0);
+        due("solve", s.solve(40), 40);
+        due("restore", s.restore(0), 8000);
+        due("steps", s.count(4), steps + 1);
+        for (int time = 0; time <= 8000; time += 400) {
+            due("value at " + time, s.value(0, time), time);
+        }
+        due("last", s.step(steps, 0), 7990);
+        due("behind", s.step(steps + 1, 0), NOT_FOUND);
     }
 
     private static void changes() {
