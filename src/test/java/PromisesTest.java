@@ -576,6 +576,20 @@ public final class PromisesTest {
         due("order 2", ways[2], 9);
         due("order 3", ways[3], 27);
         due("behind the last", s.breakAt(40, 0), NOT_FOUND);
+        // A break point that others come ahead of keeps its order and its delay.
+        s = new LagSolver();
+        right(s, 0, "x@0+x@1+x@2");
+        s.delay(0, 100, 0);
+        s.delay(1, 220, 0);
+        s.delay(2, 5000, 0);
+        s.save(0);
+        for (int n = 0; n < 2; n++) {
+            breaks(s, new int[] {0, 0}, new int[] {100, 1, 0}, new int[] {200, 2, 0}, new int[] {220, 1, 1},
+                    new int[] {320, 2, 0}, new int[] {440, 2, 1}, new int[] {5000, 1, 2},
+                    new int[] {5100, 2, 0}, new int[] {5220, 2, 1});
+            s.set(2, 3);
+            s.restore(0);
+        }
         // From 1 the lag t / 2 is 0 at 1, but 1 at 2; from 0 it is 0 at 1.
         s = new LagSolver();
         right(s, 0, "x@0+x@1");
