@@ -304,7 +304,8 @@ public final class LagSolver {
         if (!isVariable(variable) || !isWithin(time, 0, LAST_TIME)) {
             return INVALID_ARGUMENT;
         }
-        return time > current.path.endTime() ? NOT_FOUND : stepper.rightSide(current, variable, time);
+        return time > current.path.endTime() ? NOT_FOUND
+                : stepper.rightSide(current, variable, time);
     }
 
     /**
@@ -478,10 +479,12 @@ public final class LagSolver {
         if (slot < 0 || slot >= slots.length) {
             return INVALID_ARGUMENT;
         }
-        if (slots[slot] == null) {
-            slots[slot] = new State();
+        State saved = slots[slot];
+        if (saved == null) {
+            saved = new State();
+            slots[slot] = saved;
         }
-        slots[slot].copyFrom(current);
+        saved.copyFrom(current);
         return current.path.endTime();
     }
 
@@ -1095,7 +1098,7 @@ public final class LagSolver {
             return pick(rows, step * ROW + ROUND);
         }
 
-        /** Returns the step in which a time is or that ends then; the first one up to the time 0. */
+        /** Returns the step in which a time is or that ends then; the first one up to time 0. */
         int stepTo(int time) {
             int low = 0;
             int high = steps - 1;
@@ -1211,10 +1214,12 @@ public final class LagSolver {
             if (count < 0 || count >= states.length) {
                 return;
             }
-            if (states[count] == null) {
-                states[count] = new State();
+            State place = states[count];
+            if (place == null) {
+                place = new State();
+                states[count] = place;
             }
-            states[count].copyFrom(state);
+            place.copyFrom(state);
             count++;
         }
 
@@ -1274,7 +1279,8 @@ public final class LagSolver {
                 long slope = pick(firstSlopes, variable);
                 put(guess, variable, hold(pick(begin, variable) + slope * length / 1000));
             }
-            int rounds = hasShortLag(state, time + length, length) ? pick(state.settings, ROUNDS) : 0;
+            boolean isShort = hasShortLag(state, time + length, length);
+            int rounds = isShort ? pick(state.settings, ROUNDS) : 0;
             for (int n = 0; n <= rounds; n++) {
                 gather(state, time + length, time);
                 workOutSlopes(state, secondSlopes);
