@@ -71,9 +71,10 @@ public final class LagSolver {
 
     private final Text text = new Text();
     private final State current = new State();
-    private final State trial = new State();
     private final Kept kept = new Kept();
     private final State[] slots = new State[SLOTS];
+    // Made by the first call that needs it: a state is most of the room that an object takes.
+    private State trial;
     private final Stepper stepper = new Stepper();
 
     /** Creates a problem with right sides 0, without delays and histories. */
@@ -407,15 +408,19 @@ public final class LagSolver {
         if (!isWithin(step, pick(SETTING_LEAST, STEP), pick(SETTING_MOST, STEP))) {
             return INVALID_ARGUMENT;
         }
-        int end = current.path.endTime();
-        trial.copyProblem(current);
-        put(trial.settings, STEP, step);
-        trial.restart();
-        stepper.advance(trial, end);
+        State other = trial;
+        if (other == null) {
+            other = new State();
+            trial = other;
+        }
+        other.copyProblem(current);
+        put(other.settings, STEP, step);
+        other.restart();
+        stepper.advance(other, current.path.endTime());
         long most = 0;
         for (int variable = 0; variable < VARIABLES; variable++) {
             long before = current.path.endValue(variable);
-            most = Math.max(most, Math.abs(trial.path.endValue(variable) - before));
+            most = Math.max(most, Math.abs(other.path.endValue(variable) - before));
         }
         return hold(most);
     }

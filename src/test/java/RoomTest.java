@@ -1,25 +1,57 @@
 import java.lang.management.ManagementFactory;
 
-/** The dearest calls, 512 of them: they make no new objects beyond the rows of the states. */
+/** The room that 512 calls take: one object makes its rows but once, and each call makes few. */
 public final class RoomTest {
     private static final long MAX_BYTES = 2000000;
+    // A run has room for 7.3 million elements; most of them are whole numbers of 4 bytes.
+    private static final long MAX_BYTES_OF_A_RUN = 7300000L * 4;
+    private static final com.sun.management.ThreadMXBean THREADS =
+            (com.sun.management.ThreadMXBean) ManagementFactory.getThreadMXBean();
 
     public static void main(String[] args) {
         Tally tally = new Tally();
-        com.sun.management.ThreadMXBean threads =
-                (com.sun.management.ThreadMXBean) ManagementFactory.getThreadMXBean();
+        dearestCalls(tally);
+        manyObjects(tally);
+        tally.end("RoomTest");
+    }
+
+    /** Each call makes the most that it can: a new object, or a state of one that has none yet. */
+    private static void manyObjects(Tally tally) {
+        tally.part("many objects");
+        for (int each = 1; each <= 8; each++) {
+            long before = THREADS.getCurrentThreadAllocatedBytes();
+            for (int calls = 0; calls < 512; calls += each) {
+                firstCalls(new LagSolver(), each - 1);
+            }
+            long bytes = THREADS.getCurrentThreadAllocatedBytes() - before;
+            tally.due("room for objects with " + each + " calls: " + bytes, bytes <= MAX_BYTES_OF_A_RUN ? 1 : 0, 1);
+        }
+    }
+
+    private static void firstCalls(LagSolver s, int calls) {
+        for (int n = 0; n < calls; n++) {
+            if (n < 4) {
+                s.solve(1);
+            } else if (n < 6) {
+                s.save(n - 4);
+            } else {
+                s.differs(20);
+            }
+        }
+    }
+
+    private static void dearestCalls(Tally tally) {
         run(new LagSolver());
-        long before = threads.getCurrentThreadAllocatedBytes();
+        long before = THREADS.getCurrentThreadAllocatedBytes();
         LagSolver solver = new LagSolver();
         int end = run(solver);
-        long bytes = threads.getCurrentThreadAllocatedBytes() - before;
-        tally.part("room");
+        long bytes = THREADS.getCurrentThreadAllocatedBytes() - before;
+        tally.part("dearest calls");
         tally.due("the time up to which it is solved", end, 8000);
         tally.due("steps", solver.count(4) > 400 ? 1 : 0, 1);
         if (bytes > MAX_BYTES) {
             tally.fail("a run took " + bytes + " bytes");
         }
-        tally.end("RoomTest");
     }
 
     private static int run(LagSolver s) {
