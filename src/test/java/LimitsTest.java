@@ -28,6 +28,7 @@ public final class LimitsTest {
         lastStep();
         solvedTo8000();
         lastCall();
+        behindTheLastCall();
         TALLY.end("LimitsTest");
     }
 
@@ -671,5 +672,38 @@ public final class LimitsTest {
         s.due("count(3)", end);
         s.due("solve(1)", end + 1);
         TALLY.due("calls", s.made(), 512);
+    }
+
+    /** What is answered then is free, but nothing may be thrown, and each call must end. */
+    private static void behindTheLastCall() {
+        part("behind the 512th call");
+        LagSolver s = new LagSolver();
+        s.type('x');
+        s.type('@');
+        s.type('0');
+        s.right(0);
+        s.delay(0, 1, 0);
+        s.set(2, 3);
+        for (int n = 0; n < 3000; n++) {
+            s.solve(1 + n / 1500);
+            s.type(33 + n % 94);
+        }
+        for (int n = -3; n < 1000; n++) {
+            s.save(n & 1);
+            s.solve(2000);
+            s.differs(20 + n / 3);
+            s.value(0, 8 * n);
+            s.slope(0, 8 * n);
+            s.rightAt(0, 8 * n);
+            s.step(n, n % 6);
+            s.crossing(0, n, 8 * n);
+            s.greatest(0, n, 8 * n, 1);
+            s.breakAt(n, n % 3);
+            s.fault();
+            s.point(n % 3, -n, n);
+            s.restore(n & 1);
+            s.undo();
+        }
+        TALLY.due("wipe", s.wipe(), 80);
     }
 }

@@ -256,6 +256,16 @@ public final class TermsTest {
         s.due("count(5)", 6);
         int[][] rows = {{0, 0, NOT_FOUND}, {5, 1, 0}, {7, 1, 2}, {10, 2, 0}, {12, 2, 0}, {14, 2, 2}};
         points(s, rows);
+        part("greater than b: a lag that is 0 at b, but not at the next tick");
+        // The lag t / 2 is 0 at 1, 1 at 2 and 3: from 1 it is reached at 2.
+        s = new Calls(TALLY, "set(2, 2) delay(0, 1, 0) delay(1, 0, 500)");
+        s.right(0, "x@0+x@1");
+        points(s, new int[][] {{0, 0, NOT_FOUND}, {1, 1, 0}, {2, 2, 0}});
+        s.right(0, "x@1");
+        points(s, new int[][] {{0, 0, NOT_FOUND}});
+        s.right(0, "x@1+x@2");
+        s.all("delay(2, 1, -1)");
+        points(s, new int[][] {{0, 0, NOT_FOUND}, {1, 1, 2}, {2, 2, 1}});
         part("a lag that is 0 only at first");
         // The lag t / 1000 is 0 up to 999: none from 0; from 2000 by the delay 0 it is reached at 2002.
         s = new Calls(TALLY, "set(2, 2) delay(0, 2000, 0) delay(1, 0, 1)");
@@ -435,6 +445,26 @@ public final class TermsTest {
             s.due("step(0, 4)", 0);
             s.due("value(2, 100)", row[2]);
         }
+        part("steps 3: the lag is that at t + h");
+        // At 200 the lag 100 + t / 2 is 200, and x is 0 then; 100 - t / 2 is 0, and x is 400 at 200.
+        for (int part = 500; part >= -500; part -= 1000) {
+            Calls s = new Calls(TALLY, "set(2, 0) set(1, 0) set(0, 200) delay(0, 100, " + part + ")");
+            s.right(0, "2");
+            s.right(1, "x@0*20");
+            s.due("solve(200)", 200);
+            s.due("value(1, 200)", part > 0 ? 0 : 400 * 20 * 200 / 2000);
+        }
+        part("steps 3: the line of a later step, whose slope and value are told from X");
+        // x = 2 * t: X = 200 at 100, G = 400 at 200; the lag 30 looks at 170 (and at 70 by K).
+        Calls later = new Calls(TALLY, "set(2, 0) set(1, 0) delay(0, 30, 0)");
+        later.right(0, "2");
+        later.right(1, "x@0*20");
+        later.right(2, "x'@0*20");
+        later.all("solve(200)");
+        later.due("step(1, 3)", 140 * 20);
+        later.due("value(1, 200)", 140 + 140 + 340);
+        later.due("step(1, 4)", 40000);
+        later.due("value(2, 200)", 2000 + 4000);
         part("steps 3: a name is the guess");
         Calls s = new Calls(TALLY, "point(0, 0, 1000)");
         s.right(0, "2");
@@ -729,6 +759,33 @@ public final class TermsTest {
         // 0.1, 0.3, 0.5, 0.7, 0.9: 0.
         s.due("value(2, 100)", 2);
         s.due("differs(20)", 2);
+        part("19: all but STEP is as it is set: ROUNDS, ORDER, the delays, the histories");
+        int[] rounded = {1103000, 1103090, 1103092};
+        for (int rounds = 0; rounds <= 2; rounds++) {
+            s = new Calls(TALLY, "set(2, 0) point(0, 0, 1000000) delay(0, 40, 0) set(1, " + rounds + ")");
+            s.right(0, "x@0");
+            s.due("solve(100)", 100);
+            s.due("value(0, 100)", rounded[rounds]);
+            s.due("differs(100)", 0);
+            s.due("differs(500)", 0);
+        }
+        for (int order = 0; order <= 3; order++) {
+            s = new Calls(TALLY, "set(2, " + order + ") point(0, 0, 1000000) delay(0, 30, 0)");
+            s.right(0, "x@0*5");
+            s.due("solve(200)", 200);
+            s.due("differs(100)", 0);
+        }
+        part("19: each call begins anew, whatever was solved for the one before");
+        s = new Calls(TALLY, "set(0, 500)");
+        s.right(0, "1/9");
+        s.due("solve(2000)", 2000);
+        s.due("differs(20)", 220 - 200);
+        s.due("differs(500)", 0);
+        s.due("differs(20)", 220 - 200);
+        s.all("undo() solve(500)");
+        s.due("differs(20)", 55 - 50);
+        s.all("set(0, 500) point(0, 0, 7)");
+        s.due("differs(20)", 0);
         part("19: the break points are hit too");
         s = new Calls(TALLY, "point(0, 0, 1000) delay(0, 30, 0)");
         s.right(0, "x@0");
