@@ -668,6 +668,18 @@ public final class TermsTest {
         s.due("crossing(0, 0, 1)", 1);
         s.due("crossing(0, 1, 1)", 2);
         s.due("crossing(0, -1000000, 1)", NOT_FOUND);
+        part("the tick earlier is the first one of a step, and \"from\" the second one");
+        // x is -500 at 100, and goes on with K = 5000: -495 and -490, which the step before would not tell.
+        s = new Calls(TALLY, "point(0, 0, -1000)");
+        s.right(0, "-10*x");
+        s.due("solve(200)", 200);
+        s.due("value(0, 100)", -500);
+        s.due("value(0, 101)", -495);
+        s.due("crossing(0, -498, 100)", 101);
+        s.due("crossing(0, -498, 101)", 101);
+        s.due("crossing(0, -498, 102)", NOT_FOUND);
+        s.due("greatest(0, 101, 101, 0)", -495);
+        s.due("greatest(0, 99, 101, 1)", 101);
         part("a level that is come to twice: the first time from the one that is told");
         // x = e * (e - 100) / 20 in the first step, then again: K = -5000, L = 5000 at each 100.
         s = new Calls(TALLY, "set(0, 50)");
